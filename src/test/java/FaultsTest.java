@@ -136,6 +136,8 @@ public final class FaultsTest {
         fault(3, 8, "leans 1<not 1;");
         fault(3, 10, "leans not and;");
         fault(3, 7, "leans (money);");
+        fault(3, 6, "leans z;");
+        fault(3, 6, "leans a;");
         fault(3, 7, "street 0 1;");
         fault(3, 14, "ward 1;street 1 0;");
         fault(3, 16, "ward 1;street 0 1;");

@@ -140,6 +140,12 @@ public final class PromisesTest {
         Check.due(2, () -> x.wardThen(0, 1, 1));
         Check.due(41, () -> x.wardThen(0, 1, 0));
         Check.due(5, () -> x.reaches(1));
+        Check.due(0, () -> Check.tell(x, "ward 40;plan 1 1;" + "hung 9 0;".repeat(8)));
+        Check.due(0, () -> x.count(10));
+        Check.due(0, () -> Check.tell(x, "ward 40;plan 1 1;" + "hung 9 0;".repeat(9)));
+        Check.due(1, () -> x.count(10));
+        Check.due(0, () -> Check.tell(x, "ward 40;plan 1 1;"));
+        Check.due(5, () -> x.reaches(1));
         // A text with a fault behind its rules leaves the rules that are.
         Check.due(1, () -> Check.tell(x, "ground 2;cost 1;wind 9;leans 1;gives 3;believes 5;ward 1;x"));
         Check.due(2, () -> x.then(1, 2));
@@ -217,6 +223,8 @@ public final class PromisesTest {
         Check.due(0, () -> y.count(11));
         CockTower z = Check.tower("ward 1;ward 1;ward 1;ward 1;ward 1;street 0 3;street 4 1;");
         Check.due(3, () -> z.count(12));
+        Check.due(2, () -> Check.tower("ward 1;ward 1;").count(12));
+        Check.due(1, () -> Check.tower("ward 1;ward 1;ward 1;street 0 1;street 0 2;").count(12));
     }
 
     private static void countBears() {
@@ -411,6 +419,15 @@ public final class PromisesTest {
         CockTower some = Check.tower("hung 4 0;hung 9 5;hung 3 1;ward 40;wind 0;");
         Check.due(2, () -> some.then(1, 5));
         Check.due(4, () -> some.then(1, 6));
+        // What falls takes its mortar with it.
+        Check.due(2, () -> Check.tower("hung 5 0;hung 3 3;ward 40;wind 0;").then(1, 5));
+        // 16 hang and plan together, and the last of them stays in its place.
+        CockTower full = Check.tower("ground 16;ward 20;wind 0;cost 99;" + "hung 1 0;".repeat(3)
+            + "plan 2 1;".repeat(12) + "plan 7 5;");
+        full.days(1);
+        Check.due(2, () -> full.count(0));
+        Check.due(7, () -> full.course(14, 0));
+        Check.due(5, () -> full.course(14, 1));
         // A lean of 5 weighs 1, of 4 nothing.
         Check.due(0, () -> Check.tower("hung 5 0;ward 50;wind 4;").then(1, 5));
         Check.due(1, () -> Check.tower("hung 5 0;ward 50;wind 5;").then(1, 5));
@@ -422,6 +439,14 @@ public final class PromisesTest {
         Check.due(3, () -> Check.tower("hung 1 3;wind 3;").then(1, 2));
         Check.due(2, () -> Check.tower("hung 1 4;wind 3;").then(1, 2));
         Check.due(0, () -> Check.tower("hung 1 9;hung 1 9;wind 3;").then(1, 2));
+        // So much mortar that it would stand up by 11 a day.
+        CockTower much = Check.tower("ground 2;wind 9;" + "hung 1 2;".repeat(9));
+        much.days(6);
+        Check.due(30, () -> much.count(5));
+        for (int i = 0; i < 63; i++) {
+            much.mortar(i / 7);
+        }
+        Check.due(21, () -> much.then(1, 2));
         // The wind of a day is that of the day by how many there are.
         CockTower w = Check.tower("wind 1 5 0;");
         Check.due(1, () -> w.then(1, 2));
@@ -569,6 +594,30 @@ public final class PromisesTest {
         }
         Check.due(NONE, x::undo);
         Check.due(0, () -> x.count(20));
+        // All that an act may change comes back.
+        CockTower y = Check.tower("hung 1 9;hung 2 5;plan 3 7;plan 4 0;ward 99;ward 98;ward 17;ward 0;ward 5;ward 6;"
+            + "ward 7;ward 80;street 0 7;street 7 6;street 1 2;");
+        y.give(9);
+        y.street(0, 1, true);
+        y.days(20);
+        y.preach(3);
+        for (int left = 3; left >= 0; left--) {
+            int due = left;
+            Check.due(due, y::undo);
+        }
+        int[] faith = {99, 98, 17, 0, 5, 6, 7, 80};
+        int[] beside = {128, 4, 2, 0, 0, 0, 128, 65};
+        for (int w = 0; w < 8; w++) {
+            int ward = w;
+            Check.due(faith[ward], () -> y.ward(ward, 0));
+            Check.due(beside[ward], () -> y.ward(ward, 1));
+        }
+        int[] weightAndMortar = {19, 25, 37, 40};
+        for (int c = 0; c < 4; c++) {
+            int course = c;
+            Check.due(weightAndMortar[course], () -> 10 * y.course(course, 0) + y.course(course, 1));
+        }
+        Check.due(2, () -> y.count(0));
         // What is seen is no act.
         x.see(0, 0);
         x.give(1);
@@ -713,6 +762,8 @@ public final class PromisesTest {
         Check.due(9, () -> y.through(2, 0));
         Check.due(2, () -> y.through(5, 2));
         Check.due(1, () -> new CockTower().through(9, 2));
+        Check.due(2, () -> Check.tower("ward 1;gives day=1;").through(5, 2));
+        Check.due(0, () -> Check.tower("wind 0;").through(5, 0));
         CockTower z = Check.tower(FALLING);
         Check.due(0, () -> z.through(1, 3));
         Check.due(4, () -> z.through(5, 3));
@@ -909,6 +960,11 @@ public final class PromisesTest {
         Check.due(1, () -> y.heavy(2));
         y.days(1);
         Check.due(0, () -> y.heavy(2));
+        // 3 in all can be by the second course alone.
+        CockTower second = Check.tower("hung 2 0;hung 3 0;ground 2;leans weight;");
+        second.see(1, 3);
+        Check.due(1, () -> second.heavy(0));
+        Check.due(11, () -> second.heavy(1));
         // A weight may make a course fall, which is seen by the height.
         CockTower z = Check.tower("hung 5 0;ward 50;believes 0;leans height;");
         z.see(2, 1);
@@ -932,6 +988,10 @@ public final class PromisesTest {
         CockTower y = Check.tower("hung 2 0;hung 3 0;ground 2;leans (day=1)*weight;");
         Check.due(2, () -> y.look(0));
         Check.due(6, () -> y.look(1));
+        y.see(1, 0);
+        Check.due(2, () -> y.look(0));
+        Check.due(6, () -> y.look(1));
+        y.forget();
         y.see(2, 9);
         y.days(1);
         Check.due(1, () -> y.look(0));
@@ -942,7 +1002,14 @@ public final class PromisesTest {
         Check.due(5, () -> late.look(0));
         Check.due(Check.NO_ELEMENT, () -> x.look(2));
         Check.due(Check.NO_ELEMENT, () -> x.look(-1));
-        // Leans of 64 and more are other numbers than those 64 below.
+        // From 40: weight 1 goes down to 0, 3 goes up to 64, 4 to 9 are told apart on the fifth day.
+        CockTower wide = Check.tower("hung 2 0;ward 99;ward 99;ward 99;believes 0;leans (day<5)*8+(4<day)*("
+            + "(weight=1)*(0-9)+(weight=3)*((day<7)*9+(day=7)*6)+(3<weight)*(day=9)*weight);");
+        wide.days(5);
+        Check.due(40, () -> wide.count(5));
+        Check.due(5, () -> wide.look(0));
+        Check.due(8, () -> wide.look(1));
+        // Up to 63 and above.
         CockTower high = Check.tower("hung 2 0;ward 99;ward 99;leans (day<7)*9+(day=7)*(weight-3);");
         high.days(7);
         Check.due(63, () -> high.count(5));
@@ -970,6 +1037,11 @@ public final class PromisesTest {
         Check.due(7, () -> z.gales(1, 3));
         Check.due(10, () -> Check.tower("hung 5 0;ward 50;leans (wind=5)*5;wind 5;").gales(1, 3));
         Check.due(100000, () -> new CockTower().gales(5, 4));
+        // It holds for two days, and not for a third one.
+        CockTower lost = Check.tower("hung 5 0;ward 59;believes 0-9;leans 0;");
+        Check.due(10, () -> lost.gales(1, 3));
+        Check.due(100, () -> lost.gales(2, 3));
+        Check.due(0, () -> lost.gales(3, 3));
         Check.due(Check.ILLEGAL, () -> x.gales(0, 5));
         Check.due(Check.ILLEGAL, () -> x.gales(6, 5));
         Check.due(Check.ILLEGAL, () -> x.gales(1, -1));
@@ -998,6 +1070,16 @@ public final class PromisesTest {
         Check.due(3, () -> even.game(0, 1, 0));
         Check.due(0, () -> even.game(0, 1, 1));
         Check.due(0, () -> even.count(4));
+        // Ward 0 alone gains by a course: 52 beside 0; ward 1 loses by a gift.
+        CockTower first = Check.tower("ward 0;ward 60;plan 1 9;cost 5;wind 0;gives 0;believes (faith<50)*height*9;");
+        Check.due(1, () -> first.game(0, 1, 0));
+        Check.due(10, () -> first.game(0, 1, 1));
+        Check.due(1, () -> first.game(1, 0, 1));
+        // 4 courses more are 8, less 4, less the faith of 5 that is given.
+        CockTower dear = Check.tower("ward 5;ward 5;hung 9 9;hung 9 0;hung 9 0;hung 9 0;plan 9 0;ground 5;cost 5;"
+            + "wind 0;gives 0;believes 0;");
+        Check.due(1, () -> dear.game(0, 1, 0));
+        Check.due(0, () -> dear.game(0, 1, 1));
         Check.due(Check.NO_ELEMENT, () -> z.game(0, 3, 0));
         Check.due(Check.NO_ELEMENT, () -> z.game(-1, 0, 0));
         Check.due(Check.NO_ELEMENT, () -> z.game(0, 0, 2));
@@ -1032,7 +1114,8 @@ public final class PromisesTest {
         }
         // The mortar of the first holds both, that of the second one nothing.
         CockTower y = Check.tower("ward 10;hung 5 9;hung 5 0;wind 0;believes 0;");
-        for (int seed = 0; seed < 60; seed++) {
+        Check.due(3, () -> Check.tower("hung 9 0;hung 9 0;hung 9 0;").years(1, 5, 1));
+        for (int seed = 0; seed < 600; seed++) {
             int s = seed * 7919;
             int first = next(s);
             int kind = draw(first, 6);
@@ -1075,6 +1158,7 @@ public final class PromisesTest {
         Check.due(51, () -> z.share(0, 60));
         Check.due(48, () -> z.share(1, 60));
         Check.due(0, () -> Check.tower("ward 10;").share(0, 5));
+        Check.due(100, () -> Check.tower("ward 20;ward 0;").share(0, 1));
         Check.due(Check.NO_ELEMENT, () -> x.share(3, 0));
         Check.due(Check.NO_ELEMENT, () -> x.share(-1, 61));
         Check.due(Check.ILLEGAL, () -> x.share(0, 61));
@@ -1091,6 +1175,7 @@ public final class PromisesTest {
         Check.due(0, () -> Check.tower(FALLING).heaviest(0));
         Check.due(NONE, () -> Check.tower(FALLING).heaviest(1));
         Check.due(NONE, () -> new CockTower().heaviest(0));
+        Check.due(0, () -> Check.tower("hung 1 0;").heaviest(0));
         Check.due(Check.ILLEGAL, () -> x.heaviest(61));
         Check.due(Check.ILLEGAL, () -> x.heaviest(-1));
     }
@@ -1112,6 +1197,15 @@ public final class PromisesTest {
         Check.due(0, () -> y.toProp(1, 0));
         Check.due(1, () -> y.toProp(1, 1));
         Check.due(0, () -> new CockTower().toProp(60, 0));
+        // A prop would make it lean anew, by more than it does: only behind all days it changes nothing.
+        CockTower never = Check.tower("hung 4 0;ward 49;believes 0;leans (day=0)*4+(0<day)*(lean<4)*9;");
+        never.days(1);
+        Check.due(2, () -> never.toProp(2, 0));
+        Check.due(1, () -> never.toProp(2, 1));
+        // It leans by nothing then, not by a little.
+        CockTower four = Check.tower("hung 5 0;ward 50;wind 4;believes 0;");
+        Check.due(1, () -> four.toProp(2, 0));
+        Check.due(1, () -> four.toProp(2, 1));
         Check.due(Check.NO_ELEMENT, () -> x.toProp(1, 2));
         Check.due(Check.NO_ELEMENT, () -> x.toProp(0, -1));
         Check.due(Check.ILLEGAL, () -> x.toProp(0, 0));
@@ -1165,11 +1259,40 @@ public final class PromisesTest {
         Check.due(7, () -> x.count(4));
         Check.due(0, () -> x.count(17));
         Check.due(1, () -> x.count(16));
+        imageKeepsActsAndSeen();
         // The tape and the fault are no part of it either.
         Check.tell(x, "ward x");
         Check.feed(x, "ward");
         Check.due(true, x::restore);
         Check.due(20, () -> x.count(18));
         Check.due(5, x::fault);
+    }
+
+    private static void imageKeepsActsAndSeen() {
+        CockTower x = Check.tower("hung 1 0;wind 1;");
+        for (int i = 0; i < 45; i++) {
+            x.give(1);
+        }
+        x.see(3, 3);
+        x.image();
+        for (int i = 0; i < 20; i++) {
+            x.give(50);
+        }
+        x.forget();
+        x.see(3, 9);
+        Check.due(0, () -> x.heavy(2));
+        Check.due(true, x::restore);
+        Check.due(1, () -> x.heavy(2));
+        for (int left = 39; left >= 0; left--) {
+            int due = left;
+            Check.due(due, x::undo);
+            Check.due(5 + due, () -> x.count(4));
+        }
+        // The acts behind the image did not reach into it, nor do they the second time.
+        x.give(77);
+        Check.due(true, x::restore);
+        Check.due(40, () -> x.count(16));
+        Check.due(39, x::undo);
+        Check.due(44, () -> x.count(4));
     }
 }
