@@ -750,6 +750,7 @@ public final class CockTower {
         final int[] mortar = new int[MAX_COURSES];
         final int[] faith = new int[MAX_WARDS];
         final int[] beside = new int[MAX_WARDS];
+        // What each gave on the latest day that went by in this very object: no part of what is kept.
         final int[] gave = new int[MAX_WARDS];
         int all = 0;
         int hung = 0;
@@ -764,7 +765,6 @@ public final class CockTower {
             Arrays.fill(mortar, 0);
             Arrays.fill(faith, 0);
             Arrays.fill(beside, 0);
-            Arrays.fill(gave, 0);
             all = 0;
             hung = 0;
             wards = 0;
@@ -779,7 +779,6 @@ public final class CockTower {
             System.arraycopy(from.mortar, 0, mortar, 0, MAX_COURSES);
             System.arraycopy(from.faith, 0, faith, 0, MAX_WARDS);
             System.arraycopy(from.beside, 0, beside, 0, MAX_WARDS);
-            System.arraycopy(from.gave, 0, gave, 0, MAX_WARDS);
             all = from.all;
             hung = from.hung;
             wards = from.wards;
@@ -1006,7 +1005,7 @@ public final class CockTower {
         private int dropLowest(int ground, int spareAtFirst) {
             int fallen = 0;
             int left = spareAtFirst;
-            while (hung > 0 && hung < ground && left < 0) {
+            while (fallen < MAX_COURSES && hung > 0 && hung < ground && left < 0) {
                 left += weight[hung - 1] - mortar[hung - 1];
                 takeLowest();
                 fallen++;
@@ -1021,8 +1020,6 @@ public final class CockTower {
             }
             hung--;
             all--;
-            weight[all] = 0;
-            mortar[all] = 0;
         }
 
         /** What a seed brings ahead of a day: the seed then. */

@@ -1075,6 +1075,11 @@ public final class PromisesTest {
         Check.due(1, () -> first.game(0, 1, 0));
         Check.due(10, () -> first.game(0, 1, 1));
         Check.due(1, () -> first.game(1, 0, 1));
+        // A gift is 5, not 6; the 6th day counts, the 7th one does not.
+        Check.due(0, () -> Check.tower("ward 0;ward 0;plan 1 9;cost 6;wind 0;gives 0;believes height*9;").game(0, 1, 1));
+        String onDay = "ward 0;ward 0;plan 1 9;cost 5;wind 0;gives 0;believes height*9*";
+        Check.due(1, () -> Check.tower(onDay + "(day=5);").game(0, 1, 1));
+        Check.due(0, () -> Check.tower(onDay + "(day=6);").game(0, 1, 1));
         // 4 courses more are 8, less 4, less the faith of 5 that is given.
         CockTower dear = Check.tower("ward 5;ward 5;hung 9 9;hung 9 0;hung 9 0;hung 9 0;plan 9 0;ground 5;cost 5;"
             + "wind 0;gives 0;believes 0;");
@@ -1279,7 +1284,7 @@ public final class PromisesTest {
             x.give(50);
         }
         x.forget();
-        x.see(3, 9);
+        x.see(2, 3);
         Check.due(0, () -> x.heavy(2));
         Check.due(true, x::restore);
         Check.due(1, () -> x.heavy(2));
