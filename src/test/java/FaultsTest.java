@@ -173,6 +173,13 @@ public final class FaultsTest {
         Check.due(1, () -> Check.tell(x, "hung 1 0;hung 1;"));
         Check.due(15, x::fault);
         Check.due(0, () -> x.count(0));
+        // The text ends with its n bytes, even within a row that goes on behind them on the tape.
+        Check.feed(x, "leans 12345;");
+        Check.due(1, () -> x.town(10));
+        Check.due(10, x::fault);
+        Check.feed(x, "leans leanx;");
+        Check.due(1, () -> x.town(10));
+        Check.due(10, x::fault);
         Check.feed(x, "hung 1 0;hung 1;");
         Check.due(0, () -> x.town(9));
         Check.due(1, () -> x.count(0));

@@ -891,6 +891,8 @@ public final class PromisesTest {
         Check.due(0, () -> Check.tower("hung 9 8;hung 5 0;ward 50;wind 0;").toMortar(1));
         Check.due(2, () -> Check.tower("hung 9 9;hung 6 9;hung 9 1;ward 40;wind 0;plan 1 0;").toMortar(1));
         Check.due(NONE, () -> Check.tower("hung 9 9;leans 5;").toMortar(1));
+        // More mortar would hold the course that comes, but it does not hang yet.
+        Check.due(NONE, () -> Check.tower("hung 9 9;plan 6 0;ward 50;wind 0;cost 2;").toMortar(1));
         Check.due(NONE, () -> new CockTower().toMortar(60));
         Check.due(Check.ILLEGAL, () -> x.toMortar(0));
         Check.due(Check.ILLEGAL, () -> x.toMortar(61));
@@ -913,7 +915,9 @@ public final class PromisesTest {
         Check.due(NONE, () -> x.see(1, 1));
         Check.due(5, () -> x.count(21));
         Check.due(8, () -> x.count(17));
+        Check.due(0, () -> x.heavy(2));
         x.forget();
+        Check.due(1, () -> x.heavy(2));
         Check.due(0, () -> x.count(17));
         Check.due(1, () -> x.see(0, 0));
         Check.due(0, () -> x.count(16));
@@ -1164,6 +1168,7 @@ public final class PromisesTest {
         Check.due(48, () -> z.share(1, 60));
         Check.due(0, () -> Check.tower("ward 10;").share(0, 5));
         Check.due(100, () -> Check.tower("ward 20;ward 0;").share(0, 1));
+        Check.due(12, () -> Check.tower("ward 20;".repeat(8)).share(7, 1));
         Check.due(Check.NO_ELEMENT, () -> x.share(3, 0));
         Check.due(Check.NO_ELEMENT, () -> x.share(-1, 61));
         Check.due(Check.ILLEGAL, () -> x.share(0, 61));
