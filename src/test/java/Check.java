@@ -59,6 +59,28 @@ final class Check {
         return tower.town(text.length());
     }
 
+    /** All that can be asked about what is now and what comes of it, but the tape, the fault's place and STATUS. */
+    static String told(CockTower x) {
+        StringBuilder all = new StringBuilder();
+        for (int what = 0; what <= 17; what++) {
+            all.append(x.count(what)).append(' ');
+        }
+        for (int c = 0; c < x.count(0) + x.count(1); c++) {
+            all.append("course ").append(x.course(c, 0)).append(x.course(c, 1)).append(x.course(c, 2)).append(' ');
+        }
+        for (int w = 0; w < x.count(2); w++) {
+            all.append("ward ").append(x.ward(w, 0)).append(' ').append(x.ward(w, 1)).append(' ').append(x.ward(w, 3));
+            all.append(' ').append(x.wardThen(w, 9, 0)).append(' ').append(x.wardThen(w, 9, 1)).append(' ');
+        }
+        for (int what = 0; what <= 6; what++) {
+            all.append(x.then(9, what)).append(' ');
+        }
+        for (int what = 0; what <= 2; what++) {
+            all.append(x.heavy(what)).append(' ');
+        }
+        return all.append(x.look(0)).append(' ').append(x.look(1)).toString();
+    }
+
     /** A new tower with a text that must have no fault. */
     static CockTower tower(String text) {
         CockTower tower = new CockTower();
