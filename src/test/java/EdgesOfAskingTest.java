@@ -701,6 +701,20 @@ public final class EdgesOfAskingTest {
         Check.due(123, () -> fifth.row(1, 1));
         Check.due(0, () -> fifth.row(4, 0));
         Check.due(1, () -> fifth.row(5, 0));
+        // Of one, two, three or four that are all too heavy none hangs: there is no other place to take one from.
+        for (int plan = 1; plan <= 4; plan++) {
+            int many = plan;
+            for (String hung : new String[] {"", "hung 1 9;".repeat(12)}) {
+                CockTower heavy = Check.tower(hung + "plan 9 0;".repeat(many) + "gives 10;leans 0;believes 0;ward 1;ground 16;");
+                if (hung.isEmpty()) {
+                    Check.due(asItIs[many], () -> heavy.row(many, 1));
+                    Check.due(0, () -> heavy.row(many, 0));
+                } else {
+                    Check.due(asItIs[many], () -> heavy.row(60, 1));
+                    Check.due(12 + many, () -> heavy.row(60, 0));
+                }
+            }
+        }
         // What hangs counts too, and the plan is as it was.
         CockTower hung = Check.tower("hung 1 9;plan 1 0;");
         Check.due(1, () -> hung.row(1, 0));

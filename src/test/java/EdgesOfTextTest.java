@@ -8,6 +8,7 @@ public final class EdgesOfTextTest {
 
     public static void main(String[] args) {
         atMost700Bytes();
+        shorterRulesBehindLonger();
         tokensByTheirBytes();
         longestRow();
         numbersOf1To4Digits();
@@ -53,6 +54,14 @@ public final class EdgesOfTextTest {
         fault(1, 0, "1".repeat(700));
         fault(2, 5, "ward " + "1".repeat(695));
         fault(2, 5, "ward " + "0".repeat(695));
+        // The tape ends within a word of the language, and nothing is behind it.
+        fault(1, 697, " ".repeat(697) + "hun");
+        fault(1, 700, " ".repeat(696) + "hung");
+        fault(1, 693, " ".repeat(693) + "believe");
+        fault(3, 697, "leans 1+" + " ".repeat(689) + "lea");
+        fault(3, 695, "gives 1+" + " ".repeat(687) + "heigh");
+        fault(1, 698, "leans 1 " + " ".repeat(690) + "an");
+        fault(1, 700, "leans 1 " + " ".repeat(689) + "and");
         // Rules as long as a text can be: 1 and 346 times 1 more, a day's 9 at most.
         String most = "leans 1" + "+1".repeat(346) + ";";
         Check.part("a rule of 700 bytes");
@@ -79,6 +88,38 @@ public final class EdgesOfTextTest {
         Check.due(1, () -> Check.tower(either).then(1, 2));
         String both = "leans 1" + " and 1".repeat(113) + " and 0;";
         Check.due(0, () -> Check.tower(both).then(1, 2));
+    }
+
+    /** "are a TOWN, all anew": a longer rule that was told earlier does not reach into a shorter one. */
+    private static void shorterRulesBehindLonger() {
+        Check.part("shorter rules behind longer ones");
+        String[] longer = {"leans not 7;", "leans not not not 7;", "leans 7+7;", "leans 7*0;", "leans 7 and not 7;"};
+        String[] shorter = {"leans 7;", "leans 0+7;", "leans not 0*7;"};
+        int[] due = {7, 7, 1};
+        for (String before : longer) {
+            for (int i = 0; i < shorter.length; i++) {
+                String text = shorter[i];
+                int lean = due[i];
+                CockTower x = new CockTower();
+                for (int again = 0; again < 3; again++) {
+                    Check.due(0, () -> Check.tell(x, before));
+                    Check.due(0, () -> Check.tell(x, before));
+                    Check.due(0, () -> Check.tell(x, text));
+                    Check.due(lean, () -> x.then(1, 2));
+                }
+            }
+        }
+        // A rule that is told no more is without one again, behind faults too.
+        CockTower x = new CockTower();
+        Check.due(0, () -> Check.tell(x, "ward 40;leans 5;gives 6;believes 7;"));
+        Check.due(3, () -> Check.tell(x, "ward 40;leans 1;gives 1;believes wind;"));
+        Check.due(5, () -> x.then(1, 2));
+        Check.due(6, () -> x.then(1, 3));
+        Check.due(47, () -> x.wardThen(0, 1, 0));
+        Check.due(0, () -> Check.tell(x, "ward 40;"));
+        Check.due(2, () -> x.then(1, 2));
+        Check.due(2, () -> x.then(1, 3));
+        Check.due(41, () -> x.wardThen(0, 1, 0));
     }
 
     private static boolean isBlank(int b) {
