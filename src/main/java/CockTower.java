@@ -960,7 +960,7 @@ public final class CockTower {
 
         int evenSet() {
             int best = 0;
-            int least = Integer.MAX_VALUE;
+            int least = MAX_WARDS * MAX_FAITH + 1;
             for (int set = 1; set < 1 << wards; set += 2) {
                 int unevenness = unevenness(set);
                 if (unevenness < least) {

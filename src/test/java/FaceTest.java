@@ -57,7 +57,8 @@ public final class FaceTest {
     private static final List<String> RULED_OUT = List.of(
         "\\btry\\b", "\\bcatch\\b", "\\bfinally\\b", "\\bsynchronized\\b", "\\bassert\\b", "->", "::",
         "\\bdouble\\b", "\\bfloat\\b", "\\bpackage\\b", "\\bprotected\\b", "\\bstatic \\{", "Exact\\(",
-        "\\bSystem\\.(?!arraycopy)", "\\bhashCode\\b", "\\btoString\\b", "\\bnew [A-Za-z]+\\[\\w+\\]\\[");
+        "\\bSystem\\.(?!arraycopy)", "\\b(Integer|Long|Math)\\.[A-Z]", "\\bhashCode\\b", "\\btoString\\b",
+        "\\bnew [A-Za-z]+\\[\\w+\\]\\[");
 
     public static void main(String[] args) throws IOException {
         face();
